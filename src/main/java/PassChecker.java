@@ -127,7 +127,8 @@ public final class PassChecker {
         }
         checkHolds = false;
         target.copyFrom(source);
-        for (int block = 0; block < source.blockCount(); block++) {
+        int blocks = source.blockCount();
+        for (int block = 0; block < blocks; block++) {
             if (kind == FOLD) {
                 folder.foldBlock(source, target, block);
             } else if (kind == REUSE) {
@@ -147,9 +148,8 @@ public final class PassChecker {
     public int instruction(int program, int block, int i, int what)
             throws IndexOutOfBoundsException, IllegalArgumentException {
         Program read = programOf(program);
-        requireBlock(read, block);
         if (!read.hasCode(block, i)) {
-            throw new IndexOutOfBoundsException("no such instruction");
+            throw new IndexOutOfBoundsException("no such block or instruction");
         }
         if (what < 0 || what >= FIELDS) {
             throw new IllegalArgumentException("no such field of an instruction");
@@ -330,7 +330,7 @@ public final class PassChecker {
         }
 
         boolean hasCode(int block, int i) {
-            return i >= 0 && i < lengthOf(block);
+            return i >= 0 && i < INSTRUCTIONS && i < lengthOf(block);
         }
 
         int lengthOf(int block) {
@@ -647,6 +647,7 @@ public final class PassChecker {
 
         /** Row v is value v: column 0 its number, column 1 + k its multiple of atom k. */
         private final int[][] rows = new int[MOST][COLUMNS];
+        private final boolean[] areNumbers = new boolean[MOST];
         private final int[] atomKinds = new int[MOST];
         private final int[] atomLefts = new int[MOST];
         private final int[] atomRights = new int[MOST];
@@ -665,12 +666,7 @@ public final class PassChecker {
         }
 
         boolean isNumber(int value) {
-            for (int column = 1; column < COLUMNS; column++) {
-                if (cell(value, column) != 0) {
-                    return false;
-                }
-            }
-            return true;
+            return value >= 0 && value < MOST && areNumbers[value];
         }
 
         int numberOf(int value) {
@@ -692,13 +688,15 @@ public final class PassChecker {
         }
 
         int makeProduct(int one, int other) {
-            if (isNumber(one)) {
-                return makeMultiple(other, numberOf(one));
+            if (!isNumber(one) && !isNumber(other)) {
+                return makeAtom(MULTIPLY, Math.min(one, other), Math.max(one, other));
             }
-            if (isNumber(other)) {
-                return makeMultiple(one, numberOf(other));
+            int times = isNumber(one) ? numberOf(one) : numberOf(other);
+            int multiplied = isNumber(one) ? other : one;
+            for (int column = 0; column < COLUMNS; column++) {
+                draft[column] = times * cell(multiplied, column);
             }
-            return makeAtom(MULTIPLY, Math.min(one, other), Math.max(one, other));
+            return keepDraft();
         }
 
         int makeAnd(int one, int other) {
@@ -738,14 +736,7 @@ public final class PassChecker {
         }
 
         private boolean isThis(int value, int number) {
-            return numberOf(value) == number && isNumber(value);
-        }
-
-        private int makeMultiple(int value, int times) {
-            for (int column = 0; column < COLUMNS; column++) {
-                draft[column] = times * cell(value, column);
-            }
-            return keepDraft();
+            return isNumber(value) && cell(value, 0) == number;
         }
 
         private int keepDraft() {
@@ -764,6 +755,12 @@ public final class PassChecker {
             }
             valueCount = added + 1;
             System.arraycopy(draft, 0, rows[added], 0, COLUMNS);
+            areNumbers[added] = true;
+            for (int column = 1; column < COLUMNS; column++) {
+                if (draft[column] != 0) {
+                    areNumbers[added] = false;
+                }
+            }
             return added;
         }
 

@@ -1,4 +1,8 @@
+import java.lang.reflect.InvocationTargetException;
+import java.lang.reflect.Method;
+import java.lang.reflect.Modifier;
 import java.util.Arrays;
+import java.util.HashMap;
 import java.util.Map;
 import java.util.TreeMap;
 
@@ -10,6 +14,13 @@ public final class ModelTest {
     private static final int OBJECTS = 2000;
     private static final int CALLS = 512;
     private static final int[] NUMBERS = {0, 1, -1, 2, 3, 7, 8, -2, Integer.MIN_VALUE, Integer.MAX_VALUE, 1 << 16};
+
+    private static final String[] BUILDING = "block code code code code code code end end".split(" ");
+    private static final String[] USING = ("code code end pass pass instruction instruction ending check check"
+            + " refused refused same same same effects run run returned word steps").split(" ");
+    private static final String[] BARE_BUILDING = "block block end end end".split(" ");
+    private static final String[] BARE_USING = "end pass check check refused refused refused refused run".split(" ");
+    private static final Map<Class<?>, Map<String, Method>> METHODS = new HashMap<>();
 
     private static long seed = 20261115;
     private static final Map<String, Integer> seen = new TreeMap<>();
@@ -52,10 +63,10 @@ public final class ModelTest {
         int registers = 2 + below(5);
         boolean bare = below(3) == 0;
         for (int i = 0; i < CALLS; i++) {
-            int call = pick(i, bare);
+            String call = pick(i, bare);
             choose(call, arguments, registers);
-            Object got = answer(() -> callMade(made, call, arguments));
-            Object want = answer(() -> callModel(model, call, arguments));
+            Object got = answer(made, call, arguments);
+            Object want = answer(model, call, arguments);
             count(call, arguments, got);
             if (!got.equals(want)) {
                 Due.is("object " + object + ", call " + i + ", " + call + Arrays.toString(arguments), got, want);
@@ -64,12 +75,12 @@ public final class ModelTest {
         }
     }
 
-    private static void count(int call, int[] arguments, Object got) {
-        if (call == 9 && arguments[0] == 0) {
+    private static void count(String call, int[] arguments, Object got) {
+        if (call.equals("refused") && arguments[0] == 0) {
             seen.merge("reason " + got, 1, Integer::sum);
-        } else if (call == 12) {
+        } else if (call.equals("run")) {
             seen.merge("outcome " + got, 1, Integer::sum);
-        } else if (call == 10) {
+        } else if (call.equals("same")) {
             seen.merge("same " + got, 1, Integer::sum);
         }
     }
@@ -78,47 +89,44 @@ public final class ModelTest {
      * Programs are built first; then they are read, checked and run more than changed. Those of bare blocks
      * get to pairs that other ones are refused before.
      */
-    private static int pick(int i, boolean bare) {
-        int[] building = {0, 1, 1, 1, 1, 1, 1, 2, 2};
-        int[] using = {1, 1, 2, 5, 5, 6, 6, 7, 8, 8, 9, 9, 10, 10, 10, 11, 12, 12, 13, 14, 15};
-        if (bare) {
-            building = new int[] {0, 0, 2, 2, 2};
-            using = new int[] {2, 5, 8, 8, 9, 9, 9, 9, 12};
-        }
+    private static String pick(int i, boolean bare) {
         if (i % 128 == 127) {
-            return below(2) == 0 ? 3 : 4;
+            return below(2) == 0 ? "wipe" : "take";
         }
-        return i % 128 < 60 ? building[below(building.length)] : using[below(using.length)];
+        String[] from = i % 128 < 60 ? bare ? BARE_BUILDING : BUILDING : bare ? BARE_USING : USING;
+        return from[below(from.length)];
     }
 
-    private static void choose(int call, int[] to, int registers) {
-        to[0] = call == 5 || call == 9 ? near(3) : call == 14 ? near(8) : near(2);
+    private static void choose(String call, int[] to, int registers) {
+        to[0] = near(2);
         to[1] = near(3);
         switch (call) {
-            case 1 -> {
+            case "pass", "refused" -> to[0] = near(3);
+            case "word" -> to[0] = near(8);
+            case "code" -> {
                 to[2] = near(10);
                 to[3] = below(60) == 0 ? near(6) : below(registers);
                 to[4] = below(60) == 0 ? near(6) : below(registers);
                 to[5] = to[2] == 0 ? number() : below(60) == 0 ? near(6) : below(registers);
             }
-            case 2 -> {
+            case "end" -> {
                 to[2] = near(3);
                 to[3] = near(6);
                 to[4] = below(2) == 0 ? near(6) : below(3);
                 to[5] = below(2) == 0 ? near(6) : below(3);
             }
-            case 6 -> {
+            case "instruction" -> {
                 to[2] = near(8);
                 to[3] = near(4);
             }
-            case 7 -> to[2] = near(5);
-            case 10 -> {
+            case "ending" -> to[2] = near(5);
+            case "same" -> {
                 to[0] = near(3);
                 to[1] = near(6);
                 to[2] = near(3);
                 to[3] = near(6);
             }
-            case 12 -> {
+            case "run" -> {
                 to[1] = number();
                 to[2] = number();
                 to[3] = below(2) == 0 ? below(30) : near(501);
@@ -128,53 +136,33 @@ public final class ModelTest {
         }
     }
 
-    private static Object answer(Due.Call call) {
+    /** Calls a method by its name, with as many of the arguments as it takes. */
+    private static Object answer(Object on, String name, int[] arguments) {
         try {
-            return call.answer();
-        } catch (RuntimeException thrown) {
-            return thrown.getClass().getName();
+            Method method = methods(on.getClass()).get(name);
+            Object[] taken = new Object[method.getParameterCount()];
+            for (int i = 0; i < taken.length; i++) {
+                taken[i] = arguments[i];
+            }
+            return String.valueOf(method.invoke(on, taken));
+        } catch (InvocationTargetException thrown) {
+            return thrown.getCause().getClass().getName();
+        } catch (IllegalAccessException hidden) {
+            throw new IllegalStateException(hidden);
         }
     }
 
-    private static Object callMade(PassChecker x, int call, int[] of) {
-        switch (call) {
-            case 0: return x.block(of[0]);
-            case 1: return x.code(of[0], of[1], of[2], of[3], of[4], of[5]);
-            case 2: x.end(of[0], of[1], of[2], of[3], of[4], of[5]); return "";
-            case 3: x.wipe(of[0]); return "";
-            case 4: x.take(); return "";
-            case 5: return x.pass(of[0]);
-            case 6: return x.instruction(of[0], of[1], of[2], of[3]);
-            case 7: return x.ending(of[0], of[1], of[2]);
-            case 8: return x.check();
-            case 9: return x.refused(of[0]);
-            case 10: return x.same(of[0], of[1], of[2], of[3]);
-            case 11: return x.effects(of[0], of[1]);
-            case 12: return x.run(of[0], of[1], of[2], of[3]);
-            case 13: return x.returned();
-            case 14: return x.word(of[0]);
-            default: return x.steps();
+    private static Map<String, Method> methods(Class<?> type) {
+        Map<String, Method> found = METHODS.get(type);
+        if (found == null) {
+            found = new TreeMap<>();
+            for (Method method : type.getDeclaredMethods()) {
+                if (!Modifier.isPrivate(method.getModifiers())) {
+                    found.put(method.getName(), method);
+                }
+            }
+            METHODS.put(type, found);
         }
-    }
-
-    private static Object callModel(Model x, int call, int[] of) {
-        switch (call) {
-            case 0: return x.block(of[0]);
-            case 1: return x.code(of[0], of[1], of[2], of[3], of[4], of[5]);
-            case 2: x.end(of[0], of[1], of[2], of[3], of[4], of[5]); return "";
-            case 3: x.wipe(of[0]); return "";
-            case 4: x.take(); return "";
-            case 5: return x.pass(of[0]);
-            case 6: return x.instruction(of[0], of[1], of[2], of[3]);
-            case 7: return x.ending(of[0], of[1], of[2]);
-            case 8: return x.check();
-            case 9: return x.refused(of[0]);
-            case 10: return x.same(of[0], of[1], of[2], of[3]);
-            case 11: return x.effects(of[0], of[1]);
-            case 12: return x.run(of[0], of[1], of[2], of[3]);
-            case 13: return x.returned();
-            case 14: return x.word(of[0]);
-            default: return x.steps();
-        }
+        return found;
     }
 }

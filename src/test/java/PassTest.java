@@ -18,6 +18,7 @@ public final class PassTest {
         reuseOfLoad();
         reuseOfSeveral();
         orderByHeight();
+        orderTwice();
         orderKeepsDependences();
         orderKeepsTraps();
         orderCountsPlaceByPlace();
@@ -118,6 +119,10 @@ public final class PassTest {
         Due.is("changes", x.pass(FOLD), 1);
         Due.is("RETURN", Programs.endOf(x, 1, 0), "2 3 0 0");
         Due.is("only FOLD does it", x.pass(ORDER) + x.pass(REUSE), 0);
+        PassChecker y = Programs.withSource(code(Programs.CONSTANT, 0, 0, 1));
+        y.end(0, 0, Programs.IF, 0, 4, 0);
+        Due.is("an end of which only the kind is another", y.pass(FOLD), 1);
+        Due.is("only the kind", Programs.endOf(y, 1, 0), "0 0 4 0");
     }
 
     private static void eachBlockFoldsByItself() {
@@ -138,8 +143,10 @@ public final class PassTest {
         due("CONSTANT, MOVE and STORE", REUSE, 0, "0 1 0 5, 0 2 0 5, 1 3 1 0, 1 4 1 0, 9 0 1 2, 9 0 1 2",
                 code(Programs.CONSTANT, 1, 0, 5), code(Programs.CONSTANT, 2, 0, 5), code(Programs.MOVE, 3, 1, 0),
                 code(Programs.MOVE, 4, 1, 0), code(Programs.STORE, 0, 1, 2), code(Programs.STORE, 0, 1, 2));
-        due("into the same register", REUSE, 1, "2 2 0 1, 1 2 2 0", code(Programs.ADD, 2, 0, 1), code(Programs.ADD, 2, 0, 1));
-        due("into one that it reads", REUSE, 1, "2 2 0 1, 1 0 2 0", code(Programs.ADD, 2, 0, 1), code(Programs.ADD, 0, 0, 1));
+        due("into the same register", REUSE, 1, "2 2 0 1, 1 2 2 0", code(Programs.ADD, 2, 0, 1),
+                code(Programs.ADD, 2, 0, 1));
+        due("into one that it reads", REUSE, 1, "2 2 0 1, 1 0 2 0", code(Programs.ADD, 2, 0, 1),
+                code(Programs.ADD, 0, 0, 1));
         due("past a STORE", REUSE, 1, "2 2 0 1, 9 0 2 2, 1 3 2 0",
                 code(Programs.ADD, 2, 0, 1), code(Programs.STORE, 0, 2, 2), code(Programs.ADD, 3, 0, 1));
     }
@@ -153,7 +160,8 @@ public final class PassTest {
         due("B written by it", REUSE, 0, "2 1 0 1, 2 3 0 1", code(Programs.ADD, 1, 0, 1), code(Programs.ADD, 3, 0, 1));
         due("D written since", REUSE, 0, "2 2 0 1, 1 2 5 0, 2 3 0 1",
                 code(Programs.ADD, 2, 0, 1), code(Programs.MOVE, 2, 5, 0), code(Programs.ADD, 3, 0, 1));
-        due("another operation", REUSE, 0, "2 2 0 1, 3 3 0 1", code(Programs.ADD, 2, 0, 1), code(Programs.SUBTRACT, 3, 0, 1));
+        due("another operation", REUSE, 0, "2 2 0 1, 3 3 0 1", code(Programs.ADD, 2, 0, 1),
+                code(Programs.SUBTRACT, 3, 0, 1));
         due("another B", REUSE, 0, "2 2 0 1, 2 3 0 0", code(Programs.ADD, 2, 0, 1), code(Programs.ADD, 3, 0, 0));
     }
 
@@ -161,8 +169,10 @@ public final class PassTest {
         due("LOAD", REUSE, 1, "8 2 1 0, 1 3 2 0", code(Programs.LOAD, 2, 1, 0), code(Programs.LOAD, 3, 1, 0));
         due("LOAD, register 0 written", REUSE, 1, "8 2 1 0, 0 0 0 9, 1 3 2 0",
                 code(Programs.LOAD, 2, 1, 0), code(Programs.CONSTANT, 0, 0, 9), code(Programs.LOAD, 3, 1, 0));
-        due("LOAD into register 0", REUSE, 1, "8 0 1 0, 1 3 0 0", code(Programs.LOAD, 0, 1, 0), code(Programs.LOAD, 3, 1, 0));
-        due("LOAD of what it wrote", REUSE, 0, "8 1 1 0, 8 3 1 0", code(Programs.LOAD, 1, 1, 0), code(Programs.LOAD, 3, 1, 0));
+        due("LOAD into register 0", REUSE, 1, "8 0 1 0, 1 3 0 0", code(Programs.LOAD, 0, 1, 0),
+                code(Programs.LOAD, 3, 1, 0));
+        due("LOAD of what it wrote", REUSE, 0, "8 1 1 0, 8 3 1 0", code(Programs.LOAD, 1, 1, 0),
+                code(Programs.LOAD, 3, 1, 0));
         due("LOAD past a STORE", REUSE, 0, "8 2 1 0, 9 0 4 4, 8 3 1 0",
                 code(Programs.LOAD, 2, 1, 0), code(Programs.STORE, 0, 4, 4), code(Programs.LOAD, 3, 1, 0));
         due("LOAD behind a STORE again", REUSE, 1, "8 2 1 0, 9 0 4 4, 8 3 1 0, 1 5 3 0",
@@ -190,16 +200,51 @@ public final class PassTest {
         due("/ before * of the same chain", ORDER, 2, "7 3 0 1, 4 2 0 1",
                 code(Programs.MULTIPLY, 2, 0, 1), code(Programs.DIVIDE, 3, 0, 1));
         due("LOAD before +", ORDER, 2, "8 3 0 0, 2 2 0 1", code(Programs.ADD, 2, 0, 1), code(Programs.LOAD, 3, 0, 0));
-        due("the end stays last", ORDER, 0, "0 0 0 1, 0 1 0 2, 0 2 0 3",
+        for (int operation = 0; operation < 10; operation++) {
+            dueTakes(operation);
+        }
+        due("of equal heights the first", ORDER, 0, "0 0 0 1, 0 1 0 2, 0 2 0 3",
                 code(Programs.CONSTANT, 0, 0, 1), code(Programs.CONSTANT, 1, 0, 2), code(Programs.CONSTANT, 2, 0, 3));
     }
 
+    /** A chain of n additions has heights n .. 1: those that are at least as high as the one tried come before it. */
+    private static void dueTakes(int operation) {
+        int[] takes = {1, 1, 1, 1, 3, 1, 1, 4, 2, 1};
+        int[] tried = code(operation, 5, 1, 1);
+        for (int chain = 1; chain <= 5; chain++) {
+            PassChecker x = Programs.withSource();
+            for (int i = 0; i < chain; i++) {
+                x.code(0, 0, Programs.ADD, 4, 4, 4);
+            }
+            x.code(0, 0, tried[0], tried[1], tried[2], tried[3]);
+            x.pass(ORDER);
+            int place = Math.max(0, chain - takes[operation] + 1);
+            Due.is("place of " + operation + " behind " + chain, x.instruction(1, 0, place, 0) == operation
+                    && (operation != Programs.ADD || x.instruction(1, 0, place, 1) == 5), true);
+        }
+    }
+
+    private static void orderTwice() {
+        PassChecker x = Programs.withSource(code(Programs.ADD, 2, 0, 1), code(Programs.MULTIPLY, 3, 0, 1));
+        Programs.addBlock(x, 0, code(Programs.ADD, 3, 0, 1), code(Programs.MULTIPLY, 2, 0, 1));
+        for (int i = 0; i < 2; i++) {
+            Due.is("changes", x.pass(ORDER), 4);
+            Due.is("block 0", Programs.codesOf(x, 1, 0), "4 3 0 1, 2 2 0 1");
+            Due.is("block 1", Programs.codesOf(x, 1, 1), "4 2 0 1, 2 3 0 1");
+        }
+    }
+
     private static void orderKeepsDependences() {
-        due("read behind write", ORDER, 0, "2 2 0 1, 4 3 2 0", code(Programs.ADD, 2, 0, 1), code(Programs.MULTIPLY, 3, 2, 0));
-        due("read of B behind write", ORDER, 0, "2 2 0 1, 4 3 0 2", code(Programs.ADD, 2, 0, 1), code(Programs.MULTIPLY, 3, 0, 2));
-        due("write behind read", ORDER, 0, "2 2 0 1, 4 0 3 3", code(Programs.ADD, 2, 0, 1), code(Programs.MULTIPLY, 0, 3, 3));
-        due("write behind read of B", ORDER, 0, "2 2 0 1, 4 1 3 3", code(Programs.ADD, 2, 0, 1), code(Programs.MULTIPLY, 1, 3, 3));
-        due("write behind write", ORDER, 0, "2 2 0 1, 4 2 3 3", code(Programs.ADD, 2, 0, 1), code(Programs.MULTIPLY, 2, 3, 3));
+        due("read behind write", ORDER, 0, "2 2 0 1, 4 3 2 0", code(Programs.ADD, 2, 0, 1),
+                code(Programs.MULTIPLY, 3, 2, 0));
+        due("read of B behind write", ORDER, 0, "2 2 0 1, 4 3 0 2", code(Programs.ADD, 2, 0, 1),
+                code(Programs.MULTIPLY, 3, 0, 2));
+        due("write behind read", ORDER, 0, "2 2 0 1, 4 0 3 3", code(Programs.ADD, 2, 0, 1),
+                code(Programs.MULTIPLY, 0, 3, 3));
+        due("write behind read of B", ORDER, 0, "2 2 0 1, 4 1 3 3", code(Programs.ADD, 2, 0, 1),
+                code(Programs.MULTIPLY, 1, 3, 3));
+        due("write behind write", ORDER, 0, "2 2 0 1, 4 2 3 3", code(Programs.ADD, 2, 0, 1),
+                code(Programs.MULTIPLY, 2, 3, 3));
         due("a STORE reads A and B", ORDER, 0, "9 0 1 2, 4 1 3 3, 4 2 3 3",
                 code(Programs.STORE, 0, 1, 2), code(Programs.MULTIPLY, 1, 3, 3), code(Programs.MULTIPLY, 2, 3, 3));
         due("a STORE writes no register", ORDER, 2, "4 0 3 3, 9 0 1 2",

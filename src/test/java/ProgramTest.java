@@ -184,7 +184,8 @@ public final class ProgramTest {
     }
 
     private static void instructionReadsFields() {
-        PassChecker x = Programs.withSource(Programs.code(Programs.AND, 1, 2, 3), Programs.code(Programs.LESS, 5, 4, 0));
+        PassChecker x = Programs.withSource(Programs.code(Programs.AND, 1, 2, 3),
+                Programs.code(Programs.LESS, 5, 4, 0));
         Due.is("codes", Programs.codesOf(x, 0, 0), "5 1 2 3, 6 5 4 0");
         for (int what : new int[] {-1, 4}) {
             Due.fails("field " + what, ARGUMENT, () -> x.instruction(0, 0, 0, what));

@@ -59,7 +59,8 @@ public final class RunTest {
             x.end(0, 0, Programs.RETURN, register, 0, 0);
             due("register " + register + " at first", x, run(0, 11, 22, 1), 1, want[register], 1);
         }
-        PassChecker y = Programs.withSource(code(Programs.LOAD, 2, 0, 0), code(Programs.ADD, 5, 5, 1), code(Programs.STORE, 0, 0, 5));
+        PassChecker y = Programs.withSource(code(Programs.LOAD, 2, 0, 0), code(Programs.ADD, 5, 5, 1),
+                code(Programs.STORE, 0, 0, 5));
         y.end(0, 0, Programs.RETURN, 2, 0, 0);
         for (int i = 0; i < 2; i++) {
             due("every run begins anew", y, run(0, 4, 9, 99), 1, 0, 4);
@@ -72,7 +73,8 @@ public final class RunTest {
 
     private static void memory() {
         PassChecker x = new PassChecker();
-        Programs.addBlock(x, 1, code(Programs.STORE, 0, 0, 1), code(Programs.LOAD, 2, 0, 0), code(Programs.ADD, 2, 2, 2));
+        Programs.addBlock(x, 1, code(Programs.STORE, 0, 0, 1), code(Programs.LOAD, 2, 0, 0),
+                code(Programs.ADD, 2, 2, 2));
         x.end(1, 0, Programs.RETURN, 2, 0, 0);
         for (int place = 0; place < 8; place++) {
             due("place " + place, x, run(1, place, 21, 99), 1, 42, 4);
@@ -113,7 +115,8 @@ public final class RunTest {
     }
 
     private static void ends() {
-        PassChecker x = Programs.withSource(code(Programs.ADD, 2, 2, 0), code(Programs.CONSTANT, 3, 0, -1), code(Programs.ADD, 1, 1, 3));
+        PassChecker x = Programs.withSource(code(Programs.ADD, 2, 2, 0), code(Programs.CONSTANT, 3, 0, -1),
+                code(Programs.ADD, 1, 1, 3));
         x.end(0, 0, Programs.IF, 1, 0, 2);
         Programs.addBlock(x, 0);
         Programs.addBlock(x, 0);
