@@ -6,26 +6,35 @@ final class Due {
     }
 
     private static int wrong = 0;
+    private static String words = "";
 
     private Due() {
+    }
+
+    /** The document's words that the answers from here on are held against. */
+    static void by(String section, String sentence) {
+        words = section + " (" + sentence + "): ";
     }
 
     static void is(String call, Object got, Object want) {
         if (!got.equals(want)) {
             wrong++;
-            System.out.println(call + " answered " + got + ", due is " + want);
+            System.out.println(words + call + " answered " + got + ", due is " + want);
         }
     }
 
     /** The exception's exact class is due, not one below it: the machine throws those below. */
     static void fails(String call, Class<? extends RuntimeException> want, Call made) {
-        Object got;
+        is(call, answerOf(made), want);
+    }
+
+    /** What a call answered, or the class of what it threw. */
+    static Object answerOf(Call made) {
         try {
-            got = made.answer();
+            return made.answer();
         } catch (RuntimeException thrown) {
-            got = thrown.getClass();
+            return thrown.getClass();
         }
-        is(call, got, want);
     }
 
     static void finish() {
