@@ -359,6 +359,7 @@ public final class CheckEdgesTest {
         dueRefused("even if the other one is the same", ends(rows(go(1), go(1)), rows(go(1), go(2), go(2))), 1, 1, 2);
         dueRefused("as X", ends(rows(when(0, 0, 1)), rows(when(0, 1, 2))), 1, 0, 1);
         dueRefused("as Y", ends(rows(when(0, 1, 0)), rows(when(0, 1, 2))), 1, 0, 2);
+        dueRefused("as X and as Y", ends(rows(go(1), when(0, 0, 1)), rows(go(1), when(0, 2, 3))), 1, 0, 2);
         dueRefused("the last of six", ends(rows(go(1), go(2), go(3), go(4), go(5), go(5)),
                 rows(go(1), go(2), go(3), go(4), go(5), go(4))), 1, 5, 4);
         dueRefused("blocks that are not there", ends(rows(when(0, 1, 5), go(5)), rows(when(0, 1, 5), go(4))), 1, 5, 4);
@@ -403,6 +404,8 @@ public final class CheckEdgesTest {
         dueRefused("a / by 0 has one", blocks(end, rows(constant(4, 0), divide(5, 0, 4)), rows()), 2, 0, 0);
         int[] last = store(0, 1);
         int[] other = store(0, 2);
+        dueAccepted("eight that are the same", blocks(end, rows(last, last, last, last, last, last, last, last),
+                rows(last, last, last, last, last, last, last, last)), 1);
         dueRefused("the last of eight", blocks(end, rows(last, last, last, last, last, last, last, last),
                 rows(last, last, last, last, last, last, last, other)), 2, 0, 0);
     }

@@ -197,6 +197,14 @@ public final class PassEdgesTest {
         PassChecker y = Programs.withSource(add(2, 0, 1));
         Programs.addBlock(y, 0, code(Programs.MULTIPLY, 3, 0, 1));
         Due.is("ORDER", y.pass(ORDER), 0);
+        int[] quotient = code(Programs.DIVIDE, 5, 5, 5);
+        PassChecker z = Programs.withSource(quotient, quotient, quotient);
+        Programs.addBlock(z, 0, add(2, 0, 1), code(Programs.MULTIPLY, 3, 0, 1));
+        Programs.addBlock(z, 0, code(Programs.MULTIPLY, 3, 0, 1), add(2, 0, 1));
+        for (int i = 0; i < 2; i++) {
+            Due.is("ORDER of three blocks", z.pass(ORDER), 2);
+            Due.is("the target's block 1", Programs.codesOf(z, 1, 1), Programs.codesOf(z, 1, 2));
+        }
     }
 
     private static void foldNotesConstants() {
@@ -464,24 +472,34 @@ public final class PassEdgesTest {
         return new int[] {1, 1, 1, 1, 3, 1, 1, 4, 2, 1}[operation];
     }
 
-    /** Before a chain of n instructions that take 1 stands the one that is tried if it takes more than n. */
+    /** A chain of n that take 1 has the heights n .. 1: those that are higher than the one tried come before it. */
     private static void orderTakes() {
         Due.by("Terms", "Its HEIGHT is what it takes (4: 3, 7: 4, 8: 2, others 1)");
         for (int operation = 0; operation < 10; operation++) {
             for (int chain = 1; chain < 6; chain++) {
-                int[][] source = new int[chain + 1][];
-                for (int i = 0; i < chain; i++) {
-                    source[i] = move(4, 4);
-                }
-                source[chain] = code(operation, 5, 1, 1);
-                PassChecker x = Programs.withSource(source);
-                x.pass(ORDER);
-                String tried = textOf(source[chain]);
-                int place = Math.max(0, chain - takes(operation) + 1);
-                String at = Programs.codesOf(x, 1, 0).split(", ")[place];
-                Due.is(operation + " behind " + chain + " that take 1, at place " + place, at, tried);
+                int higher = Math.max(0, chain - takes(operation));
+                int asHigh = Math.max(0, chain - takes(operation) + 1);
+                dueAtPlace(operation, 0, chain, higher);
+                dueAtPlace(operation, chain, 0, asHigh);
             }
         }
+    }
+
+    /** Of equal heights the first comes first: it counts whether the chain stands before the one tried or behind it. */
+    private static void dueAtPlace(int operation, int before, int behind, int want) {
+        PassChecker x = new PassChecker();
+        x.block(0);
+        for (int i = 0; i < before; i++) {
+            x.code(0, 0, Programs.MOVE, 4, 4, 0);
+        }
+        x.code(0, 0, operation, 5, 1, 1);
+        for (int i = 0; i < behind; i++) {
+            x.code(0, 0, Programs.MOVE, 4, 4, 0);
+        }
+        x.pass(ORDER);
+        String at = Programs.codesOf(x, 1, 0).split(", ")[want];
+        Due.is(operation + " with " + before + " before it and " + behind + " behind it, at place " + want, at,
+                textOf(code(operation, 5, 1, 1)));
     }
 
     private static void orderGreatestOfThoseThatDepend() {

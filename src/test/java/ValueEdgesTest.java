@@ -18,6 +18,8 @@ public final class ValueEdgesTest {
         quotientsByNumbers();
         quotientsByAnythingElse();
         loadsAndStores();
+        atomsOfTwoOperations();
+        blocksAreWorkedOutAnew();
         asManyAtomsAsTwoFullBlocksMake();
         effectsOfNoBlock();
         effectsOfAnEmptyBlock();
@@ -260,6 +262,8 @@ public final class ValueEdgesTest {
         due("a * b and a * c", false, codes(multiply(5, 0, 1)), codes(multiply(5, 0, 2)));
         due("a * b and c * b", false, codes(multiply(5, 0, 1)), codes(multiply(5, 2, 1)));
         due("a * a and a * b", false, codes(multiply(5, 0, 0)), codes(multiply(5, 0, 1)));
+        due("a * b and b * b", false, codes(multiply(5, 0, 1)), codes(multiply(5, 1, 1)));
+        due("a * c and b * c", false, codes(multiply(5, 0, 2)), codes(multiply(5, 1, 2)));
         due("a * b and a & b", false, codes(multiply(5, 0, 1)), codes(code(Programs.AND, 5, 0, 1)));
         due("(a + b) * c and c * (b + a)", true, codes(add(5, 0, 1), multiply(5, 5, 2)),
                 codes(add(5, 1, 0), multiply(5, 2, 5)));
@@ -298,6 +302,7 @@ public final class ValueEdgesTest {
         due("a & b and b & a", true, codes(code(Programs.AND, 5, 0, 1)), codes(code(Programs.AND, 5, 1, 0)));
         due("a & b and a & c", false, codes(code(Programs.AND, 5, 0, 1)), codes(code(Programs.AND, 5, 0, 2)));
         due("a & b and c & b", false, codes(code(Programs.AND, 5, 0, 1)), codes(code(Programs.AND, 5, 2, 1)));
+        due("a & c and b & c", false, codes(code(Programs.AND, 5, 0, 2)), codes(code(Programs.AND, 5, 1, 2)));
     }
 
     private static void lessOfNumbersAndSameValues() {
@@ -370,6 +375,47 @@ public final class ValueEdgesTest {
         due("a STORE behind it", true, codes(load(5, 0), store(1, 1)), codes(load(5, 0)));
         due("what was stored there", false, codes(store(0, 1), load(5, 0)), codes(store(0, 1), move(5, 1)));
         due("0, which memory is at first", false, codes(constant(4, 3), load(5, 4)), codes(constant(5, 0)));
+    }
+
+    private static void atomsOfTwoOperations() {
+        Due.by("Terms", "A value is a number and a sum of multiples (ints, that wrap) of different ATOMS.");
+        for (int one = Programs.MULTIPLY; one <= Programs.LOAD; one++) {
+            for (int other = one + 1; other <= Programs.LOAD; other++) {
+                for (int b = 0; b < 5; b++) {
+                    int a = (b + 1) % 5;
+                    due("operations " + one + " and " + other + " of " + a + " and " + b, false,
+                            codes(code(one, 5, a, b)), codes(code(other, 5, a, b)));
+                }
+            }
+        }
+    }
+
+    /** Nothing of a block that was worked out before counts in the next one. */
+    private static void blocksAreWorkedOutAnew() {
+        Due.by("Terms", "LOAD: an atom of the place and of how many STOREs there were in the block before");
+        PassChecker x = withBlocks(2, 2);
+        for (int program = 0; program < 2; program++) {
+            x.code(program, 0, Programs.STORE, 0, 1, 1);
+            x.code(program, 0, Programs.STORE, 0, 1, 1);
+            x.code(program, 1, Programs.LOAD, 5, 0, 0);
+        }
+        x.code(1, 0, Programs.LOAD, 5, 0, 0);
+        for (int i = 0; i < 3; i++) {
+            Due.is("effects of two STOREs", x.effects(0, 0), 2);
+            Due.is("LOADs in blocks without STOREs", x.same(1, 5, 1, 5), true);
+            Due.is("a LOAD behind none and one behind two STOREs", x.same(1, 5, 0, 5), false);
+        }
+        Due.by("Terms", "Atoms: what a register was when the block began");
+        PassChecker y = withBlocks(2, 2);
+        for (int register = 0; register < 6; register++) {
+            y.code(0, 0, Programs.CONSTANT, register, 0, 4);
+            y.code(1, 0, Programs.CONSTANT, register, 0, 5);
+        }
+        for (int register = 0; register < 6; register++) {
+            Due.is("register " + register + " that became 4 and 5", y.same(0, register, 0, register), false);
+            Due.is("register " + register + " that is not written", y.same(1, register, 1, register), true);
+            Due.is("register " + register + " that became 4", y.same(0, register, 1, register), false);
+        }
     }
 
     private static void asManyAtomsAsTwoFullBlocksMake() {
@@ -455,6 +501,10 @@ public final class ValueEdgesTest {
         dueEffects("a / b and b / a", 2, divide(5, 0, 1), divide(4, 1, 0));
         dueEffects("a / b, b written, a / b", 2, divide(5, 0, 1), move(1, 2), divide(4, 0, 1), divide(4, 0, 2));
         dueEffects("7 / 0 twice", 1, constant(3, 7), constant(4, 0), divide(5, 3, 4), divide(5, 3, 4));
+        dueEffects("a / b twice behind six STOREs", 7, store(0, 0), store(0, 0), store(0, 0), store(0, 0),
+                store(0, 0), store(0, 0), divide(5, 0, 1), divide(4, 0, 1));
+        dueEffects("a / b before and behind six STOREs", 7, divide(5, 0, 1), store(0, 0), store(0, 0), store(0, 0),
+                store(0, 0), store(0, 0), store(0, 0), divide(4, 0, 1));
         PassChecker x = withBlocks(2, 0);
         for (int block = 0; block < 2; block++) {
             x.code(0, block, Programs.DIVIDE, 5, 0, 1);
@@ -484,6 +534,8 @@ public final class ValueEdgesTest {
         dueEffects("LOAD at 8 twice", 1, constant(4, 8), load(5, 4), load(5, 4));
         dueEffects("LOAD at a, b and a", 2, load(5, 0), load(5, 1), load(4, 0));
         dueEffects("LOAD at a twice, a STORE between", 3, load(5, 0), store(1, 1), load(4, 0));
+        dueEffects("LOAD at a twice behind six STOREs", 7, store(1, 1), store(1, 1), store(1, 1), store(1, 1),
+                store(1, 1), store(1, 1), load(5, 0), load(4, 0));
         dueEffects("LOAD at a twice, a STORE before", 2, store(1, 1), load(5, 0), load(4, 0));
         dueEffects("LOAD at a, a STORE, LOAD at a twice", 3, load(5, 0), store(1, 1), load(4, 0), load(3, 0));
         dueEffects("LOAD at 3 twice, a STORE between", 1, constant(4, 3), load(5, 4), store(1, 1), load(3, 4));
